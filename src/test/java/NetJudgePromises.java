@@ -14,6 +14,7 @@ public final class NetJudgePromises {
         verdict();
         verdictLooksOnlyAtReachableMarkings();
         distance();
+        distanceOfAFarMarking();
         markings();
         covers();
         firstFiring();
@@ -265,6 +266,28 @@ public final class NetJudgePromises {
         due("distance: 24", y.distance(24), 3);
         due("distance: 32", y.distance(32), 4);
         due("distance: full of six places", new NetJudge(6, 63).distance(63), 0);
+    }
+
+    private static void distanceOfAFarMarking() {
+        NetJudge x = new NetJudge(6, 35);
+        int[] pre = {18, 20, 20, 24, 6, 40, 1, 10};
+        int[] post = {6, 8, 1, 10, 5, 9, 16, 3};
+        for (int t = 0; t < 8; t++) {
+            x.setTransition(t, pre[t], post[t]);
+        }
+        int[] run = {6, 0, 4, 6, 1, 5, 6, 3, 7, 6, 0, 4, 6, 2, 6};
+        int[] met = {35, 50, 38, 37, 52, 40, 9, 24, 10, 3, 18, 6, 5, 20, 1, 16};
+        for (int i = 0; i < run.length; i++) {
+            due("far: distance " + i, x.distance(met[i]), i);
+            due("far: fire " + i, x.fire(run[i]), true);
+            due("far: current " + i, x.current(), met[i + 1]);
+        }
+        due("far: the last", x.distance(16), 15);
+        due("far: covers the last", x.covers(16), 1);
+        due("far: a firing on the way", x.firstFiring(7), 9);
+        due("far: the side ways count too", x.markings(), 19);
+        due("far: a side way ends first", x.deadlock(), 6);
+        due("far: there", x.deadMarking(), 48);
     }
 
     private static void markings() {
