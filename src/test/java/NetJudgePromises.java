@@ -1,4 +1,4 @@
-// Each promise of the document by itself: ordinary inputs, the edges it names, and wrong inputs.
+// Each promise of the document by itself, in ordinary use; its boundary cases stand in NetJudgeBoundaries.
 public final class NetJudgePromises {
     private static final int BIT31 = 1 << 31;
     private static int wrong = 0;
@@ -6,22 +6,18 @@ public final class NetJudgePromises {
     public static void main(String[] args) {
         constants();
         newObject();
-        newObjectClampsPlaces();
         setTransition();
-        setTransitionRefuses();
         dropTransition();
         setInitial();
         verdict();
         verdictLooksOnlyAtReachableMarkings();
         distance();
-        distanceOfAFarMarking();
         markings();
         covers();
         firstFiring();
         together();
         deadlock();
         deadMarking();
-        unsafeNetsAnswerNothing();
         fire();
         current();
         enabled();
@@ -96,18 +92,6 @@ public final class NetJudgePromises {
         due("new: foreign bits are no marking", new NetJudge(4, 0x75).distance(0x75), -1);
     }
 
-    private static void newObjectClampsPlaces() {
-        int[] asked = {Integer.MIN_VALUE, -1, 0, 1, 2, 3, 4, 5, 6, 7, 31, 32, 33, Integer.MAX_VALUE};
-        int[] given = {1, 1, 1, 1, 2, 3, 4, 5, 6, 6, 6, 6, 6, 6};
-        for (int i = 0; i < asked.length; i++) {
-            NetJudge x = new NetJudge(asked[i], -1);
-            String what = "places " + asked[i] + ": ";
-            due(what + "current", x.current(), (1 << given[i]) - 1);
-            due(what + "last place", x.setInitial(1 << (given[i] - 1)), true);
-            due(what + "one place more", x.setInitial(1 << given[i]), false);
-        }
-    }
-
     private static void setTransition() {
         NetJudge x = new NetJudge(6, 1);
         due("set: t 0", x.setTransition(0, 1, 2), true);
@@ -127,30 +111,6 @@ public final class NetJudgePromises {
         due("set: two and two, shared", x.setTransition(3, 33, 48), true);
         due("set: two and one, highest", x.setTransition(4, 48, 32), true);
         due("set: pre is post", x.setTransition(5, 3, 3), true);
-    }
-
-    private static void setTransitionRefuses() {
-        NetJudge x = new NetJudge(4, 1);
-        due("refuse: the good one", x.setTransition(0, 1, 2), true);
-        due("refuse: play", x.fire(0), true);
-        int[] numbers = {-1, 8, 9, 32, Integer.MIN_VALUE, Integer.MAX_VALUE};
-        for (int t : numbers) {
-            due("refuse: t " + t, x.setTransition(t, 1, 4), false);
-        }
-        int[] sets = {0, 7, 11, 13, 14, 15, 16, 17, 1 << 5, 1 << 6, 1 << 30, BIT31, BIT31 | 1, BIT31 | 3, -1};
-        for (int set : sets) {
-            due("refuse: pre " + set, x.setTransition(0, set, 4), false);
-            due("refuse: post " + set, x.setTransition(0, 1, set), false);
-            due("refuse: absent t, pre " + set, x.setTransition(5, set, 4), false);
-            due("refuse: absent t, post " + set, x.setTransition(5, 1, set), false);
-            due("refuse: the game stays after " + set, x.current(), 2);
-            due("refuse: t 5 stays absent after " + set, x.dropTransition(5), false);
-        }
-        x.rewind();
-        due("refuse: t 0 stays", x.enabled(), 1);
-        due("refuse: markings stay", x.markings(), 2);
-        due("refuse: fire", x.fire(0), true);
-        due("refuse: as it was", x.current(), 2);
     }
 
     private static void dropTransition() {
@@ -266,28 +226,6 @@ public final class NetJudgePromises {
         due("distance: 24", y.distance(24), 3);
         due("distance: 32", y.distance(32), 4);
         due("distance: full of six places", new NetJudge(6, 63).distance(63), 0);
-    }
-
-    private static void distanceOfAFarMarking() {
-        NetJudge x = new NetJudge(6, 35);
-        int[] pre = {18, 20, 20, 24, 6, 40, 1, 10};
-        int[] post = {6, 8, 1, 10, 5, 9, 16, 3};
-        for (int t = 0; t < 8; t++) {
-            x.setTransition(t, pre[t], post[t]);
-        }
-        int[] run = {6, 0, 4, 6, 1, 5, 6, 3, 7, 6, 0, 4, 6, 2, 6};
-        int[] met = {35, 50, 38, 37, 52, 40, 9, 24, 10, 3, 18, 6, 5, 20, 1, 16};
-        for (int i = 0; i < run.length; i++) {
-            due("far: distance " + i, x.distance(met[i]), i);
-            due("far: fire " + i, x.fire(run[i]), true);
-            due("far: current " + i, x.current(), met[i + 1]);
-        }
-        due("far: the last", x.distance(16), 15);
-        due("far: covers the last", x.covers(16), 1);
-        due("far: a firing on the way", x.firstFiring(7), 9);
-        due("far: the side ways count too", x.markings(), 19);
-        due("far: a side way ends first", x.deadlock(), 6);
-        due("far: there", x.deadMarking(), 48);
     }
 
     private static void markings() {
@@ -437,26 +375,6 @@ public final class NetJudgePromises {
         NetJudge y = threeEnds();
         y.setTransition(5, 4, 4);
         due("dead: not one with a loop", y.deadMarking(), 16);
-    }
-
-    private static void unsafeNetsAnswerNothing() {
-        NetJudge x = fork();
-        x.setTransition(4, 24, 40);
-        x.setTransition(5, 8, 24);
-        due("unsafe: verdict", x.verdict(), NetJudge.UNSAFE);
-        for (int m = -1; m <= 64; m++) {
-            due("unsafe: distance " + m, x.distance(m), -1);
-            due("unsafe: covers " + m, x.covers(m), -1);
-        }
-        for (int t = -1; t <= 8; t++) {
-            due("unsafe: firstFiring " + t, x.firstFiring(t), -1);
-            for (int u = -1; u <= 8; u++) {
-                due("unsafe: together " + t + " " + u, x.together(t, u), false);
-            }
-        }
-        due("unsafe: markings", x.markings(), 0);
-        due("unsafe: deadlock", x.deadlock(), -1);
-        due("unsafe: deadMarking", x.deadMarking(), -1);
     }
 
     private static void fire() {
