@@ -4,8 +4,11 @@ import java.lang.reflect.Method;
 import java.lang.reflect.Modifier;
 import java.nio.file.Files;
 import java.nio.file.Path;
+import java.util.ArrayList;
 import java.util.List;
+import java.util.Map;
 import java.util.Set;
+import java.util.TreeMap;
 import java.util.TreeSet;
 import java.util.regex.Matcher;
 import java.util.regex.Pattern;
@@ -19,6 +22,7 @@ public final class NetJudgeRules {
         members();
         types();
         words();
+        calls();
         System.out.println(wrong == 0 ? "the rules are kept" : wrong + " rules are broken");
         if (wrong != 0) System.exit(1);
     }
@@ -92,8 +96,12 @@ public final class NetJudgeRules {
         }
     }
 
+    private static String withoutComments() throws Exception {
+        return Files.readString(PROGRAM).replaceAll("(?s)/\\*.*?\\*/", "").replaceAll("//[^\n]*", "");
+    }
+
     private static void words() throws Exception {
-        String text = Files.readString(PROGRAM).replaceAll("(?s)/\\*.*?\\*/", "").replaceAll("//[^\n]*", "");
+        String text = withoutComments();
         String barred = "float|double|String|Object|Math|Integer|Long|System|Arrays|import|package|null|throw|throws|try"
             + "|catch|synchronized|assert|instanceof|enum|record|interface|protected|var|Thread|volatile|native";
         Matcher word = Pattern.compile("\\b(" + barred + ")\\b|->|::|\"|@").matcher(text);
@@ -107,5 +115,34 @@ public final class NetJudgeRules {
         }
         Matcher nested = Pattern.compile("\\b(?!(?:if|for|while|switch|return)\\b)\\w+\\([^()]*\\w\\([^\n]*").matcher(text);
         while (nested.find()) broken("rule 10, a call in a call: " + nested.group());
+    }
+
+    // Leans on the program's layout: a method begins and ends on lines of its own, four blanks in.
+    private static void calls() throws Exception {
+        Map<String, String> bodies = new TreeMap<>();
+        Matcher method = Pattern.compile("(?ms)^    (?:public|private) [^\n;=]*?(\\w+)\\([^\n]*\\) \\{\n(.*?)^    \\}")
+            .matcher(withoutComments());
+        while (method.find()) bodies.put(method.group(1), method.group(2));
+        int declared = NetJudge.class.getDeclaredMethods().length + NetJudge.class.getDeclaredConstructors().length;
+        if (bodies.size() != declared) broken("methods found in the text: " + bodies.size() + " of " + declared);
+        for (String name : bodies.keySet()) {
+            int lines = bodies.get(name).split("\n").length;
+            if (lines > 60) broken("rule 10: " + name + " has " + lines + " lines");
+            follow(name, bodies, List.of());
+        }
+    }
+
+    private static void follow(String name, Map<String, String> bodies, List<String> callers) {
+        List<String> chain = new ArrayList<>(callers);
+        chain.add(name);
+        if (callers.contains(name)) {
+            broken("rule 8, recursion: " + chain);
+            return;
+        }
+        if (chain.size() > 6) broken("rule 10, too deep: " + chain);
+        Matcher call = Pattern.compile("\\b(\\w+)\\(").matcher(bodies.get(name));
+        while (call.find()) {
+            if (bodies.containsKey(call.group(1))) follow(call.group(1), bodies, chain);
+        }
     }
 }
